@@ -25,7 +25,6 @@ public final class MismatchCtl {
     }
 
     public int close() {
-        // The low bit, not a remainder: % 2 of a negative odd sum would be -1.
         if ((xor & 1) == 0) {
             store(LAST, cells[LAST] ^ 1);
         }
