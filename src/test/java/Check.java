@@ -1,15 +1,14 @@
-/** Counts the answers of one test that are not as due, and ends the test. */
-final class Check {
-    /** Indexes that name no cell; most would name one if only their low bits were looked at. */
-    static final int[] WRONG_INDEXES = {
-        -1, 8, -8, 9, -2, 15, 16, 128, 256, -256, 32767, -32768, 65536, 65543, -65529,
-        Integer.MIN_VALUE, Integer.MIN_VALUE + 7, Integer.MAX_VALUE, Integer.MAX_VALUE - 7
-    };
+import java.util.function.Consumer;
 
+/** Runs the tests of one promise, a test for each sentence, and counts the answers not as due. */
+final class Check {
     // The sweeps ask so much that one fault could otherwise fill the log with the same line.
-    private static final int LINES = 20;
+    private static final int LINES = 5;
 
     private final String name;
+    private String sentence = "";
+    private int sentences = 0;
+    private int broken = 0;
     private int asked = 0;
     private int wrong = 0;
 
@@ -17,13 +16,39 @@ final class Check {
         this.name = name;
     }
 
+    /** The test of one sentence, named by words of the document; it fails if it asks nothing. */
+    void sentence(String words, Consumer<Check> test) {
+        sentence = words;
+        sentences++;
+        asked = 0;
+        wrong = 0;
+        try {
+            test.accept(this);
+        } catch (RuntimeException e) {
+            fault("a call threw " + e);
+        }
+        if (asked == 0) {
+            fault("nothing was asked");
+        }
+        if (wrong != 0) {
+            broken++;
+        }
+    }
+
     void due(String call, int got, int want) {
         asked++;
         if (got != want) {
-            wrong++;
-            if (wrong <= LINES) {
-                System.out.println(name + ": " + call + " answered " + got + ", due is " + want);
-            }
+            fault(call + " answered " + got + ", due is " + want);
+        }
+    }
+
+    private void fault(String what) {
+        wrong++;
+        if (wrong == 1) {
+            System.out.println(name + ", \"" + sentence + "\":");
+        }
+        if (wrong <= LINES) {
+            System.out.println("  " + what);
         }
     }
 
@@ -52,8 +77,8 @@ final class Check {
     }
 
     void end() {
-        System.out.println(name + ": " + asked + " answers, " + wrong + " not as due");
-        if (wrong != 0 || asked == 0) {
+        System.out.println(name + ": " + sentences + " sentences, " + broken + " broken");
+        if (broken != 0 || sentences == 0) {
             System.exit(1);
         }
     }

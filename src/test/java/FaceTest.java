@@ -10,10 +10,23 @@ import java.util.TreeSet;
 public final class FaceTest {
     public static void main(String[] args) {
         Check check = new Check("face");
+        check.sentence("The class is `final`.", FaceTest::publicAndFinal);
+        check.sentence("There are no public constants.", FaceTest::noVisibleField);
+        check.sentence("## The public face", FaceTest::theFace);
+        check.end();
+    }
+
+    private static void publicAndFinal(Check check) {
         int modifiers = MismatchCtl.class.getModifiers();
         check.due("the class is public", modifiers & Modifier.PUBLIC, Modifier.PUBLIC);
         check.due("the class is final", modifiers & Modifier.FINAL, Modifier.FINAL);
+    }
 
+    private static void noVisibleField(Check check) {
+        check.due("number of public fields", MismatchCtl.class.getFields().length, 0);
+    }
+
+    private static void theFace(Check check) {
         Set<String> due = new TreeSet<>(Arrays.asList(
             "public MismatchCtl()",
             "public int MismatchCtl.dequant(int,int,int,int)",
@@ -27,7 +40,6 @@ public final class FaceTest {
         for (String member : due) {
             check.due("is there: " + member, seen.contains(member) ? 1 : 0, 1);
         }
-        check.end();
     }
 
     private static Set<String> visibleMembers() {
