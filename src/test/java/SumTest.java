@@ -8,8 +8,8 @@ public final class SumTest {
         check.sentence("Answers the xor of the eight coefficients", SumTest::xorOfAll);
         check.sentence("each sign extended to `int` before the xor", SumTest::signsCount);
         check.sentence("Changes nothing.", SumTest::askingChangesNothing);
-        check.sentence("At every moment, after any sequence of calls, this equals", SumTest::everyShortRun);
-        check.sentence("At every moment, after any sequence of calls, this equals", SumTest::longRun);
+        check.sentence("At every moment", SumTest::longRun);
+        check.sentence("after any sequence of calls", SumTest::everyShortRun);
         check.sentence("the answer itself also lies in -2048 to 2047", SumTest::edgesTogether);
         check.end();
     }
