@@ -40,6 +40,9 @@ public final class FaceTest {
         for (String member : due) {
             check.due("is there: " + member, seen.contains(member) ? 1 : 0, 1);
         }
+        // A class above it or an interface could bring public members that it doesn't declare.
+        check.due("extends Object alone", MismatchCtl.class.getSuperclass() == Object.class ? 1 : 0, 1);
+        check.due("number of interfaces", MismatchCtl.class.getInterfaces().length, 0);
     }
 
     private static Set<String> visibleMembers() {
